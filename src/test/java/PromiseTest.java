@@ -189,6 +189,7 @@ public final class PromiseTest {
             late.add("waits(60)=0");
         }
         late.addAll(List.of("now(0)=9960", "waits(40)=STATE", "waits(0)=BEYOND", "waits(33)=0", "move(0, -1)=STATE",
+            "waits(7)=STATE",
             "move(0, 6)=BEYOND", "unseen(0, 5)=STATE", "hidden(0)=STATE", "hidden(6)=BEYOND", "unseen(0, 6)=BEYOND",
             "move(0, 5)=9999", "waits(1)=STATE", "move(1, 0)=STATE", "now(0)=9999", "visitor()=1", "empty()=30",
             "change(0, 3, 1)=5"));
@@ -254,6 +255,16 @@ public final class PromiseTest {
             "waits(1)", "change(0, 3, 1)", "waits(20)=1", "unseen(0, 5)=0", "visitor()", "unseen(0, 5)=0", "unseen(0, 0)=0");
         run("23 unseen, those who are gone don't count", "part(5)", "change(0, 3, 0)", "pace(1)", "visitor()", "waits(6)",
             "unseen(0, 5)=0", "visitor()", "waits(1)", "unseen(0, 5)=4");
+        run("23 unseen, 60 minutes at most", "part(5)", "change(0, 3, 0)", "pace(20)", "visitor()", "waits(18)=0",
+            "unseen(0, 3)=NONE", "waits(1)", "unseen(0, 3)=60", "waits(1)", "unseen(0, 3)=59", "visitor()", "unseen(0, 3)=NONE",
+            "waits(1)", "unseen(0, 3)=NONE", "unseen(0, 1)=38");
+        List<String> late = new ArrayList<>(List.of("part(1)", "part(5)"));
+        for (int i = 0; i < 150; i++) {
+            late.add("waits(60)=0");
+        }
+        late.addAll(List.of("visitor()=0", "unseen(0, 2)=0", "hidden(2)=3", "now(0)=9000", "waits(1)", "unseen(0, 2)=STATE",
+            "unseen(2, 2)=BEYOND", "hidden(2)=STATE", "hidden(7)=BEYOND"));
+        run("23 unseen, 24 hidden: the last minute for plans", late.toArray(new String[0]));
         run("24 hidden", "hidden(0)=0", "part(1)", "part(5)", "part(3)", "change(0, 3, 0)", "change(1, 3, 0)", "visitor()",
             "hidden(0)=4", "waits(1)", "hidden(0)=4", "hidden(5)=4", "hidden(-1)=3", "hidden(1)=4", "waits(22)", "hidden(5)=4",
             "waits(1)", "hidden(5)=5", "waits(5)", "hidden(5)=7", "hidden(-2)=BEYOND", "hidden(6)=BEYOND");
@@ -362,7 +373,8 @@ public final class PromiseTest {
             "tape 7", "text()=-1", "tape in 3", "text()=-1", "tape part in", "text()=-8", "tape part in 3 wax 4", "text()=-11",
             "tape part in 3 looks 4", "text()=-11", "tape part looks 1 looks 2", "text()=-14", "tape part looks 256", "text()=-12",
             "tape part looks wax", "text()=-12", "tape part wax 0", "text()=-10", "tape part wax 61", "text()=-10",
-            "tape part in 6", "text()=-9", "tape part face 0 looks 0", "text()=-6", "tape parts", "text()=-1", "tape par", "text()=-1",
+            "tape part in 6", "text()=-9", "tape part face 0 looks 0", "text()=-6", "tape parts", "text()=-1", "tape partz", "text()=-1", "tape parta", "text()=-1",
+            "tape part{", "text()=-5", "tape part`", "text()=-5", "tape part/", "text()=-5", "tape part:", "text()=-5", "tape par", "text()=-1",
             "count(1)=0", "now(1)=5", "status(-1)=0");
         run("38 text, faults of faces and shows", "tape face 6 looks 1", "text()=-6", "tape face 0", "text()=-7",
             "tape face 0 look 1", "text()=-8", "tape face 0 chance 3", "text()=-8", "tape face 0 looks 256", "text()=-14",
@@ -372,6 +384,11 @@ public final class PromiseTest {
             "tape pace 0", "text()=-6", "tape pace 21", "text()=-6", "count(3)=0", "face(0, 0, 0)=0", "face(0, 1, 1)=1");
         run("38 text, with a fault nothing is told", "tape part;face 0 looks 3 chance 4;show 0 0;pace 7;pace 0", "text()=-51",
             "count(1)=0", "face(0, 0, 0)=0", "face(0, 1, 1)=1", "room(0, 0)=-1", "now(1)=5", "count(5)=0");
+        run("38 text, a full tape", "tape " + ";".repeat(120), "count(5)=120", "text()=-1", "tape " + "a".repeat(120), "text()=-1",
+            "tape pace 3" + " ".repeat(114), "text()=1", "now(1)=3", "tape pace 4;" + " ".repeat(113), "text()=-121",
+            "tape pace 5" + ";pace 7".repeat(16) + " ;", "count(5)=120", "text()=-121", "tape " + "a;".repeat(60), "text()=-1",
+            "tape pace " + "0".repeat(114) + "8", "text()=1", "now(1)=8", "tape pace " + "9".repeat(115), "text()=-6",
+            "tape pace 5" + ";pace 7".repeat(16) + "  ", "text()=17", "now(1)=7");
         run("38 text, an 11th part", join(TEN, "tape pace 3;head", "text()=-8", "now(1)=5", "tape pace 3;heads", "text()=-8",
             "tape pace 3;show 0 0", "text()=2", "now(1)=3", "count(1)=10"));
         run("38 text, the 10th and the 11th part", "part(0)", "tape part;part;part;part;part;part;part;part;part;part",
