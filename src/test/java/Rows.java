@@ -8,7 +8,8 @@ import java.util.regex.Pattern;
 /**
  * Runs of rows, each on a new object. A row is a call and the answer that is due, "tape" with a text, or a call
  * alone (which then answers no finding). Where a finding is due, all that can be asked must be as it was ahead of
- * that call, and at the end status() must tell just those findings that were due.
+ * that call; where a FAULT is due, as if the tape had just been wiped; and at the end status() must tell just those
+ * findings that were due.
  */
 final class Rows {
     private static final Calls CALLS = new Calls(SameHeads.class);
@@ -112,6 +113,9 @@ final class Rows {
                 tally[Calls.LOW - Calls.answer(due)]++;
                 compareTwins(where, Arrays.copyOf(rowsOfRun, i + 1));
             }
+            if (due.startsWith("-") && callOf(rowsOfRun[i]).equals("text()")) {
+                compareTwins(where, Arrays.copyOf(rowsOfRun, i + 1), "wipe()");
+            }
         }
         checkStatus(name, used, tally);
     }
@@ -129,15 +133,15 @@ final class Rows {
         }
     }
 
-    /** Two new objects go through the same rows, one of them without the last: all answers then must be the same. */
-    private void compareTwins(String where, String[] rowsTillNow) {
+    /** Two new objects go through the same rows, one with others in the place of the last: all answers then must be the same. */
+    private void compareTwins(String where, String[] rowsTillNow, String... insteadOfLast) {
         Used with = new Used();
         Used without = new Used();
-        for (int i = 0; i < rowsTillNow.length; i++) {
-            with.makeRow(rowsTillNow[i]);
-            if (i < rowsTillNow.length - 1) {
-                without.makeRow(rowsTillNow[i]);
-            }
+        for (String row : rowsTillNow) {
+            with.makeRow(row);
+        }
+        for (String row : join(Arrays.copyOf(rowsTillNow, rowsTillNow.length - 1), insteadOfLast)) {
+            without.makeRow(row);
         }
         if (!all(with).equals(all(without))) {
             complain(where, rowsTillNow[rowsTillNow.length - 1] + ", yet it changed something");
