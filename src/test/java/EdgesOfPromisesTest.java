@@ -126,6 +126,8 @@ public final class EdgesOfPromisesTest {
             "change(0, 3, 0)", "now(4)=1022", "change(9, 3, 5)", "now(4)=510", "waits(30)", "now(3)=0"));
         ROWS.run("Promise 15: PARTS SEEN TWICE by anybody, by one who is gone too", "part(0)", "change(0, 3, 0)", "pace(1)", "visitor()", "waits(1)",
             "change(0, 3, 1)", "waits(1)=1", "waits(60)=1", "now(3)=0", "now(5)=1");
+        ROWS.run("Promise 15: all LIKENESSES together: ROOM 0 and ROOM 5, not the STORE", "part(1)", "part(1)", "part(1)", "change(0, 3, 0)", "change(1, 3, 5)", "show(0, 0)",
+            "now(2)=16", "show(5, 0)", "now(2)=32", "show(0, -1)", "now(2)=16");
     }
 
     private static void givings() {
@@ -135,6 +137,8 @@ public final class EdgesOfPromisesTest {
             "show(5, 5)", "most()=96", "change(0, 0, 2)", "most()=98", "change(9, 0, 2)", "most()=100", "given(0)=0", "given(5)=9"));
         ROWS.run("Promise 16: six ROOMS, one HEAD, wherever it is", "part(1)", "show(0, 0)", "show(1, 0)", "show(2, 0)", "show(3, 0)", "show(4, 0)",
             "show(5, 0)", "most()=16", "change(0, 3, 5)", "most()=16", "given(0)=0", "given(5)=-1");
+        ROWS.run("Promise 16: a HEAD no more, nor given", "part(1)", "show(0, 0)", "most()=16", "given(0)=0", "change(0, 0, 4)", "most()=0", "given(0)=-1", "change(0, 0, 3)",
+            "most()=13", "given(0)=0");
         ROWS.range("Promise 17: BEYOND", THREE, "given(?)", 0, 5);
         ROWS.run("Promise 17: none: there is no HEAD, or nobody is SHOWN", "given(0)=-1", "show(0, 0)", "given(0)=-1", "part(4)", "given(0)=-1", "part(1)",
             "given(0)=1", "given(1)=-1", "show(0, -1)", "given(0)=-1");
@@ -148,10 +152,17 @@ public final class EdgesOfPromisesTest {
         ROWS.run("Promise 18: NONE: there are no PARTS; BEYOND is asked ahead of it", "likest(0)=NONE", "likest(5)=NONE", "likest(6)=BEYOND", "likest(-1)=BEYOND",
             "part(5)", "likest(0)=0");
         ROWS.run("Promise 18: the last of ten", Rows.join(TEN, "change(9, 0, 2)", "likest(5)=9"));
+        for (int i = 0; i < 10; i++) {
+            ROWS.run("Promise 18: each of ten", Rows.join(TEN, "change(" + i + ", 1, 1)", "face(3, 0, 1)", "likest(3)=" + i));
+            ROWS.run("Promise 28: each of ten", Rows.join(TEN, "change(" + i + ", 1, 1)", "face(3, 0, 1)", "mould(3)=" + i, "cuts(3)=0"));
+        }
         ROWS.run("Promise 18: any PART, not HEADS alone", "part(1)", "part(4)", "change(0, 1, 15)", "likest(0)=1", "like(0, 0)=8", "like(1, 0)=11");
         ROWS.range("Promise 19: BEYOND", THREE, "whom(?)", 0, 2);
         ROWS.run("Promise 19: BEYOND: there is no PART yet", "whom(0)=BEYOND");
         ROWS.run("Promise 19: FACE 0 and FACE 5", "part(0)", "whom(0)=0", "change(0, 1, 9)", "face(5, 0, 9)", "whom(0)=5");
+        for (int face = 0; face < 6; face++) {
+            ROWS.run("Promise 19: each FACE", "part(0)", "change(0, 1, 255)", "face(" + face + ", 0, 1)", "whom(0)=" + face);
+        }
         ROWS.range("Promise 20: BEYOND", THREE, "missed(?)", 0, 2);
         ROWS.run("Promise 20: BEYOND: there is no PART yet", "missed(0)=BEYOND");
         ROWS.run("Promise 20: 0: it is no HEAD, or one that is just as good is left; else all", "part(1)", "part(4)", "show(0, 0)", "missed(1)=0", "missed(0)=16",
@@ -161,10 +172,15 @@ public final class EdgesOfPromisesTest {
         ROWS.run("Promise 21: KIND: it is no HEAD, nor under it", Rows.join(ALL_KINDS, "recast(0)=KIND", "recast(1)=0", "recast(2)=0", "recast(3)=0",
             "recast(4)=KIND", "recast(5)=KIND", "recast(6)=KIND", "recast(7)=BEYOND"));
         ROWS.run("Promise 21: LOOKS 0 and 255, nothing changes", "part(1)", "show(0, 0)", "recast(0)=0", "face(0, 0, 255)", "recast(0)=255", "of(0, 1)=0");
+        ROWS.run("Promise 21: what the other HEADS are given is left, what it was itself doesn't count", "part(1)", "part(1)", "change(0, 1, 240)", "change(1, 1, 15)",
+            "face(1, 0, 15)", "face(2, 0, 240)", "show(0, 1)", "show(1, 2)", "recast(0)=240", "recast(1)=15", "change(1, 1, 240)", "recast(0)=15", "show(0, -1)", "recast(0)=0");
+        ROWS.run("Promise 21: the last of ten", Rows.join(TEN, "face(0, 0, 3)", "show(5, 0)", "recast(9)=3", "change(0, 1, 3)", "recast(9)=0"));
         ROWS.range("Promise 22: BEYOND", THREE, "kindFor(?)", 0, 2);
         ROWS.run("Promise 22: BEYOND: there is no PART yet", "kindFor(0)=BEYOND");
         ROWS.run("Promise 22: PART where none helps, WIGGED, CROWNED with LOOK 7, nothing changes", "part(6)", "kindFor(0)=0", "show(0, 0)", "kindFor(0)=2",
             "face(0, 0, 128)", "kindFor(0)=3", "of(0, 0)=6", "part(3)", "change(1, 1, 128)", "kindFor(0)=0", "show(5, 0)", "kindFor(0)=3");
+        ROWS.run("Promise 22: what it is itself doesn't count", "part(3)", "face(0, 0, 128)", "show(0, 0)", "kindFor(0)=3", "part(3)", "kindFor(0)=0", "kindFor(1)=0");
+        ROWS.run("Promise 22: the last of ten", Rows.join(TEN, "show(5, 0)", "kindFor(9)=2", "change(0, 0, 2)", "kindFor(9)=0"));
     }
 
     private static void unseenMoves() {
@@ -183,6 +199,12 @@ public final class EdgesOfPromisesTest {
         ROWS.run("Promise 23: those alone who are there now: one who comes later doesn't count", "part(5)", "change(0, 3, 5)", "pace(1)", "unseen(0, 0)=0",
             "visitor()", "unseen(0, 0)=0", "waits(5)", "unseen(0, 0)=0", "waits(1)", "seen(0, 1)=1", "unseen(0, 0)=0");
         ROWS.run("Promise 23: one who is gone doesn't count", "part(5)", "change(0, 3, 0)", "pace(1)", "visitor()", "waits(6)", "seen(0, 1)=1", "unseen(0, 5)=0");
+        ROWS.run("Promise 23: the last PART of ten and the last VISITOR of four", Rows.join(TEN, "visitor()", "visitor()", "visitor()", "waits(60)", "change(9, 3, 0)", "visitor()=3",
+            "unseen(9, 1)=0", "waits(1)", "seen(3, 1)=512", "unseen(9, 1)=7", "unseen(8, 1)=0", "hidden(1)=511", "waits(7)", "hidden(1)=1023"));
+        ROWS.run("Promise 23: SEEN again in the same ROOM is not TWICE", "part(5)", "change(0, 3, 0)", "visitor()", "waits(1)", "change(0, 3, 1)", "unseen(0, 0)=0", "move(0, 0)=2",
+            "waits(60)=0");
+        ROWS.run("Promise 23: four VISITORS, the last one leaves the ROOM last", "part(5)", "change(0, 3, 0)", "visitor()", "waits(1)", "visitor()", "waits(1)", "visitor()", "waits(1)",
+            "visitor()", "waits(1)", "unseen(0, 1)=8", "unseen(0, -1)=0");
         // Now in the room where it is, he would see it there if it waited, and in room 2 if it came there ahead of him.
         ROWS.run("Promise 23: one who has SEEN it TWICE doesn't count, who SAW it once does", "part(5)", "change(0, 3, 0)", "pace(20)", "visitor()",
             "waits(1)", "unseen(0, 2)=58", "waits(19)", "change(0, 3, 1)", "unseen(0, 2)=NONE", "waits(1)=1", "unseen(0, 2)=0");
@@ -257,6 +279,8 @@ public final class EdgesOfPromisesTest {
         ROWS.range("Promise 31: BEYOND: FACE not among seven numbers, of which six count", new String[] {"sheet(1, 8, 7)"}, "maybe(1, ?)", 0, 5);
         ROWS.range("Promise 31: BEYOND: FACE not among forty numbers, of which six count", new String[] {"sheet(3, 32, 40)"}, "maybe(3, ?)", 0, 5);
         ROWS.run("Promise 31: BEYOND: there is no number", "sheet(0, 8, 0)", "maybe(0, 0)=BEYOND", "maybe(0, -1)=BEYOND");
+        ROWS.run("Promise 31: BEYOND: each FACE that isn't among three numbers", "sheet(0, 8, 3)", "maybe(0, 2)=0", "maybe(0, 3)=BEYOND", "maybe(0, 4)=BEYOND", "maybe(0, 5)=BEYOND",
+            "maybe(0, 6)=BEYOND", "maybe(0, 40)=BEYOND");
         ROWS.run("Promise 31: MISSING is asked behind the sheet, ahead of the FACE", "maybe(4, 0)=BEYOND", "maybe(4, 9)=BEYOND", "maybe(-1, 0)=BEYOND", "maybe(0, 0)=MISSING",
             "maybe(0, 6)=MISSING", "maybe(3, -1)=MISSING", "sheet(0, 8, 1)", "maybe(0, 6)=BEYOND");
         ROWS.run("Promise 31: no way: an empty set, though one HEAD is just so LIKE", "part(1)", "sheet(0, 8, 2)", "write(0, 0, 16)", "maybe(0, 0)=0", "maybe(0, 1)=0", "write(0, 1, 16)",
@@ -444,6 +468,8 @@ public final class EdgesOfPromisesTest {
             "of(0, 0)=1", "of(0, 1)=0", "of(0, 2)=10", "of(0, 3)=1", "face(0, 0, 3)=3", "face(0, 1, 4)=4", "room(5, 0)=0", "room(0, 0)=-1", "count(1)=1", "count(2)=1",
             "seen(0, 1)=1", "seen(0, 2)=0", "as(9, 1)=0", "as(0, 0)=MISSING", "count(6)=44", "now(1)=6", "seen(0, 0)=0");
         ROWS.run("Promise 46: an image of a new object", "image()=1", "part(0)", "waits(3)", "undo()=0", "count(1)=0", "part(6)=0");
+        ROWS.run("Promise 46: what the last VISITOR of four has SEEN of the last PART of ten", Rows.join(TEN, "change(9, 3, 0)", "pace(1)", "visitor()", "visitor()", "visitor()", "visitor()",
+            "image()", "waits(1)", "seen(3, 1)=512", "undo()=0", "seen(3, 1)=0", "waits(1)", "image()", "change(9, 3, 1)", "waits(1)=1", "undo()=1", "seen(3, 1)=512", "seen(3, 2)=0"));
         ROWS.run("Promise 47: NONE: nothing is kept", "undo()=NONE", "image()", "undo()=0", "tear()=1", "undo()=NONE", "part(0)", "undo()=NONE", "count(1)=1");
         ROWS.run("Promise 47: what was kept latest", "waits(1)", "image()", "waits(2)", "image()", "waits(3)", "undo()=3", "now(0)=3");
         ROWS.run("Promise 47: which stays", "part(0)", "image()", "change(0, 1, 5)", "undo()=0", "change(0, 1, 6)", "face(0, 0, 6)", "hold(0, 0)", "show(0, 0)", "undo()=0", "of(0, 1)=0",
