@@ -33,6 +33,8 @@ public final class SameHeads {
     private static final int MOST_PAPERS = 12;
     private static final int LAST_MINUTE = 9999;
     private static final int LAST_PLANNED = 9000;
+    /** A minute that is behind all that any visitor's round reaches. */
+    private static final int NEVER = 1000000;
 
     private static final int[] LEAST_TRAIT = {0, 0, 1, STORE};
     private static final int[] MOST_TRAIT = {Kinds.GLOVED, MOST_LOOKS, MOST_WAX, ROOMS - 1};
@@ -904,7 +906,7 @@ public final class SameHeads {
                     if (passes(visitor, place[part], clock, leaves)) {
                         rooms |= 1 << place[part];
                     }
-                    if (passes(visitor, to, arrives, Integer.MAX_VALUE)) {
+                    if (passes(visitor, to, arrives, NEVER)) {
                         rooms |= 1 << to;
                     }
                     if (Integer.bitCount(rooms) >= 2) {

@@ -23,7 +23,7 @@ public final class LanguageTest {
     private static final String[] REFUSED = {
         "\\bthrows?\\b", "\\btry\\b", "\\bcatch\\b", "\\bsynchronized\\b", "\\bassert\\b", "->", "::", "\\bvar\\b",
         "\\bprotected\\b", "Exact\\b", "\\bhashCode\\b", "\\btoString\\b", "\\bSystem\\.(?!arraycopy)", "\\bMath\\.(?!max|min|abs)",
-        "\\bArrays\\.(?!fill|copyOf)", "\\bInteger\\.(?!bitCount|MAX_VALUE)", "\\bimport (?!java\\.util\\.Arrays;)", "\"\\s*\\+", "\\+\\s*\"",
+        "\\bArrays\\.(?!fill|copyOf)", "\\bInteger\\.(?!bitCount)", "\\bimport (?!java\\.util\\.Arrays;)", "\"\\s*\\+", "\\+\\s*\"",
         "\\bpackage\\b", "static \\{", "while \\(true\\)", "for \\(;"
     };
     private static int wrong = 0;
