@@ -61,7 +61,9 @@ final class Calls {
             for (int k = 0; k < n; k++) {
                 v = v << 8 | bytes[i + k] & 255;
             }
-            make(object, "feed", v, n);
+            if (make(object, "feed", v, n) < 0) {
+                throw new IllegalStateException("the tape has no place for: " + text);
+            }
         }
     }
 

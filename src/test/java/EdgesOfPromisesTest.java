@@ -491,6 +491,21 @@ public final class EdgesOfPromisesTest {
         ROWS.run("Promise 50: nothing yet, of each", "status(-1)=0", "status(0)=0", "status(1)=0", "status(2)=0", "status(3)=0", "status(4)=0", "status(5)=0", "status(6)=0");
     }
 
+    private static void callsThatAsk() {
+        String[] setUp = {
+            "tape head looks 3 in 0;wigged looks 200 wax 4 in 1;crowned in 5;body;hands in 2", "text()=5", "tape face 1 looks 200 chance 9;show 0 1;show 2 0;show 5 2",
+            "text()=4", "pace(3)", "visitor()", "waits(4)", "visitor()", "hold(4, 1)", "sheet(0, 8, 2)", "write(0, 0, 12)", "seed(5)", "image()", "change(0, 1, 7)", "tape pace 3"
+        };
+        ROWS.asking("Promises 16, 17, 18, 19, 20, 21, 22: givings (nothing changes)", setUp, "most()", "given(0)", "given(2)", "given(5)", "likest(0)", "likest(1)", "whom(0)", "whom(3)",
+            "missed(0)", "missed(2)", "missed(4)", "recast(0)", "recast(1)", "recast(2)", "kindFor(0)", "kindFor(2)", "kindFor(3)", "kindFor(4)");
+        ROWS.asking("Promises 3, 8, 9, 10, 12, 15: asking of PARTS, ROOMS, MINUTES changes nothing", setUp, "of(1, 3)", "room(0, 0)", "room(0, 1)", "room(0, 2)", "room(1, 3)", "like(2, 1)",
+            "carries(3, 5)", "seen(0, 0)", "seen(0, 1)", "seen(1, 2)", "now(2)", "now(3)", "now(5)");
+        ROWS.asking("Promises 23, 24, 25: a MOVE is only thought of", setUp, "unseen(0, 3)", "unseen(1, 2)", "hidden(1)", "hidden(-1)", "empty()");
+        ROWS.asking("Promises 26, 27, 28, 29, 30, 31, 32, 33: asking of papers, moulds, tellings, fires changes nothing", setUp, "worth(9, 0)", "worth(9, 1)", "next()", "mould(1)", "cuts(1)",
+            "fits(0)", "maybe(0, 1)", "stand(5, 9)", "fire(1, 3)");
+        ROWS.asking("Promises 40, 45, 49, 50: asking of SPOTS, sheets, how many changes nothing", setUp, "as(4, 1)", "judge(0)", "count(4)", "count(5)", "count(6)", "status(-1)", "status(2)");
+    }
+
     public static void main(String[] args) {
         parts();
         rooms();
@@ -506,6 +521,7 @@ public final class EdgesOfPromisesTest {
         copies();
         readers();
         images();
+        callsThatAsk();
         for (int promise = 1; promise <= PROMISES; promise++) {
             // EdgesOfTextsTest has those of text().
             if (promise != 38 && !ROWS.names(promise)) {

@@ -90,6 +90,14 @@ final class Rows {
         run(name + ": " + call + " of " + least + " to " + most, refused.toArray(new String[0]));
     }
 
+    /** Calls that only ask: behind each one all is as it was, and none answers a finding. */
+    void asking(String name, String[] setUp, String... calls) {
+        run(name, join(setUp, calls));
+        for (String call : calls) {
+            compareTwins(name, join(setUp, call));
+        }
+    }
+
     void run(String name, String... rowsOfRun) {
         Matcher m = PROMISES.matcher(name);
         while (m.find()) {
